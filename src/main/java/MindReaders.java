@@ -485,7 +485,10 @@ public final class MindReaders {
         }
         h = mixRow(h, weights);
         for (int i = 0; i < codesRead; i++) {
-            h = mixCode(h, i);
+            Code c = codeAt(i);
+            if (c != null) {
+                h = mixCode(h, i, c);
+            }
         }
         for (int i = 0; i < notes.size(); i++) {
             h = mix(h, notes.thingOf(i));
@@ -512,11 +515,9 @@ public final class MindReaders {
         return mixed;
     }
 
-    private long mixCode(long h, int code) {
+    private long mixCode(long h, int code, Code c) {
         long mixed = h;
-        Code c = codeAt(code);
-        int speeches = c == null ? 0 : c.size();
-        for (int s = 0; s < speeches; s++) {
+        for (int s = 0; s < c.size(); s++) {
             for (int i = 0; i <= MOST_SPOKEN; i++) {
                 mixed = mix(mixed, speech(code, s, i));
             }
@@ -524,7 +525,7 @@ public final class MindReaders {
             mixed = mix(mixed, speech(code, s, 30));
         }
         mixed = mix(mixed, clear(code, 0));
-        mixed = mix(mixed, twice(code));
+        mixed = mix(mixed, readings.leastTwice(c));
         mixed = mix(mixed, oddness(code));
         mixed = mix(mixed, apart(code));
         return mix(mixed, stop(code));
