@@ -13,23 +13,7 @@ final class LookerSentences extends Sentence {
         stop();
     }
 
-    private static MindReaders kindsWith(String code, int... weights) {
-        MindReaders x = Check.withKinds();
-        Check.code(x, code);
-        Check.things(x, weights);
-        return x;
-    }
-
     // ---- 23 to 25: notes
-
-    private static MindReaders withNotes(int many, String page) {
-        MindReaders x = kindsWith("a,b", 1, 1);
-        for (int i = 0; i < many; i++) {
-            Check.note(x, 0, "a");
-        }
-        Check.page(x, page);
-        return x;
-    }
 
     private static void note() {
         of(23, "THE PAGE is a row that was said for a THING: how many NOTES;");
@@ -125,15 +109,6 @@ final class LookerSentences extends Sentence {
     }
 
     // ---- 26: step
-
-    private static MindReaders noted(String code, int things, int thing, String row) {
-        MindReaders x = Check.with(code);
-        for (int i = 0; i < things; i++) {
-            x.thing(1);
-        }
-        Check.note(x, thing, row);
-        return x;
-    }
 
     private static void isStep(Made made, int week, int due) {
         asked("WEEK " + week, due, made, x -> x.step(0, week));
@@ -412,6 +387,8 @@ final class LookerSentences extends Sentence {
         isStop("f,fh,fhh,fg", 192);
         isStop("ah,bh,fhg", 99);
         isStop("bf,c", 38);
+        isStop("abh,hab", 128);
+        isStop("abfgh,ghabf", 192);
         asked("all eight", 255, () -> Check.with("a,b,c,d,e,f,g,h"), x -> x.stop(0));
         asked("of like ones", 1, () -> Check.with("ab,ba"), x -> x.stop(0));
 

@@ -17,13 +17,6 @@ final class MeaningSentences extends Sentence {
         right();
     }
 
-    private static MindReaders kindsWith(String code, int... weights) {
-        MindReaders x = Check.withKinds();
-        Check.code(x, code);
-        Check.things(x, weights);
-        return x;
-    }
-
     /** With this row on THE PAGE. */
     private static MindReaders heard(String code, String row) {
         MindReaders x = kindsWith(code, 3, 4);
@@ -163,6 +156,9 @@ final class MeaningSentences extends Sentence {
         isTwice("a,ab,b", 2);
         isTwice("aa,aaa", 5);
         isTwice("aaaa,aaaaa", 9);
+        isTwice("aaa,a", 3);
+        isTwice("aa,aba,abaa,bab", 11);
+        isTwice("baaab,aab,aa,aba", 13);
         isTwice("ab,abb,bab", 5);
         isTwice("a,ba,ab", 3);
         isTwice("b,c", 2);

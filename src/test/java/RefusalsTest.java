@@ -17,17 +17,9 @@ public final class RefusalsTest {
         Check.end("RefusalsTest");
     }
 
-    /** One with all of it, one NOTE and WEIGHT behind what the IMAGE has, and a text on THE PAGE. */
+    /** One with all of it, and what it tells ahead of the calls. */
     private static void make(String page) {
-        x = Check.withKinds();
-        Check.things(x, 10, 20, 30);
-        Check.code(x, "ac,b,fgh,ggggg");
-        Check.code(x, "b,a");
-        Check.note(x, 0, "acd");
-        x.image();
-        x.weigh(0, 11);
-        Check.note(x, 1, "b");
-        Check.page(x, page);
+        x = Sentence.busy(page);
         ahead = x.digest();
     }
 

@@ -146,6 +146,34 @@ abstract class Sentence {
         return x;
     }
 
+    /** One with a SIGNAL of each KIND, a CODE and THINGS of these WEIGHTS. */
+    static MindReaders kindsWith(String code, int... weights) {
+        MindReaders x = Check.withKinds();
+        Check.code(x, code);
+        Check.things(x, weights);
+        return x;
+    }
+
+    /** One with a CODE, so many THINGS of WEIGHT 1, and one NOTE; all SIGNALS are WORDS. */
+    static MindReaders noted(String code, int things, int thing, String row) {
+        MindReaders x = Check.with(code);
+        for (int i = 0; i < things; i++) {
+            x.thing(1);
+        }
+        Check.note(x, thing, row);
+        return x;
+    }
+
+    /** One with so many NOTES, all of "a" for THING 0 of two, and this text on THE PAGE. */
+    static MindReaders withNotes(int many, String page) {
+        MindReaders x = kindsWith("a,b", 1, 1);
+        for (int i = 0; i < many; i++) {
+            Check.note(x, 0, "a");
+        }
+        Check.page(x, page);
+        return x;
+    }
+
     /** A text of one letter so many times. */
     static String times(char letter, int many) {
         return String.valueOf(letter).repeat(many);

@@ -250,6 +250,12 @@ final class TermsSentences extends Sentence {
         due("and is as long as told", x.speech(0, 1, 30), 11);
         due("the others stand as they did", x.speech(0, 0, 10), 2);
         due("no SIGNAL came by it", x.about(7, 0), UNKNOWN);
+        x = Check.with("a,b", 1);
+        Check.note(x, 0, "ab");
+        due("a NOTE of one that is not told", x.which(), 0);
+        x.signal(0, NONE, 1, 0);
+        x.signal(3, NONE, 1, 0);
+        due("the NOTE once it is told as an EMPTY", x.which(), 1);
     }
 
     private static void says() {
@@ -262,13 +268,6 @@ final class TermsSentences extends Sentence {
     }
 
     // ---- 2: what it means
-
-    private static MindReaders kindsWith(String code, int... weights) {
-        MindReaders x = Check.withKinds();
-        Check.code(x, code);
-        Check.things(x, weights);
-        return x;
-    }
 
     private static void alike() {
         means();
@@ -359,6 +358,9 @@ final class TermsSentences extends Sentence {
         of(TERMS, "TWICE: the least length of a row (of SIGNALS that stand, at least one)");
         isTwice(new MindReaders(), "aa,aaa", 5);
         isTwice(new MindReaders(), "a,aa,aaa", 2);
+        isTwice(new MindReaders(), "aaa,a", 3);
+        isTwice(new MindReaders(), "aa,aba,abaa,bab", 11);
+        isTwice(new MindReaders(), "aabbb,bbba,baab,ba,abaa", 21);
         isTwice(Check.withKinds(), "b,c", 2);
         isTwice(Check.withKinds(), "d,e", NONE);
         isTwice(Check.withKinds(), "ccccc,cccce", 17);
@@ -483,6 +485,7 @@ final class TermsSentences extends Sentence {
         due("no THING is told", Check.named(x, 0, "cc"), 2);
         x.thing(1);
         due("one THING is told", Check.named(x, 0, "bc"), 1);
+        due("by noise one that is not told, too", Check.with("a,b", 1).right(0, 0, 2, 3, 0), 7);
     }
 
     private static void isRight(MindReaders x, int thing, int r, int e, long above, long below) {
@@ -560,15 +563,6 @@ final class TermsSentences extends Sentence {
         due("PLAIN", x.which(), 3);
         Check.note(x, 1, "bb");
         due("each row", x.which(), 0);
-    }
-
-    private static MindReaders noted(String code, int things, int thing, String row) {
-        MindReaders x = Check.with(code);
-        for (int i = 0; i < things; i++) {
-            x.thing(1);
-        }
-        Check.note(x, thing, row);
-        return x;
     }
 
     private static void isStep(MindReaders x, int week, int due) {
@@ -681,6 +675,7 @@ final class TermsSentences extends Sentence {
         due("c,bb", kindsWith("c,bb").stop(0), 0);
         due("a,b", Check.with("a,b").stop(0), 3);
         due("hab,ab", Check.with("hab,ab").stop(0), 128);
+        due("abh,hab, not both a and b, of fewer bits", Check.with("abh,hab").stop(0), 128);
         due("a,b,c,d,e,f,g,h", Check.with("a,b,c,d,e,f,g,h").stop(0), 255);
 
         of(TERMS, "of like ones of least bits.");

@@ -30,6 +30,17 @@ final class ToldSentences extends Sentence {
         x.weigh(0, 1);
         x.restore();
         due("it is kept on", x.count(5), 8 * 50 + 28);
+        x = Check.with("a,b", 1);
+        Check.note(x, 0, "b");
+        x.image();
+        x.forget();
+        Check.note(x, 0, "a");
+        Check.note(x, 0, "a");
+        x.image();
+        x.forget();
+        x.restore();
+        due("the latest NOTES", x.count(3), 2);
+        due("and their rows", x.which(), 1);
         due("keeping it changes nothing else", busy("abc").digest(), imaged("abc").digest());
     }
 
@@ -59,7 +70,7 @@ final class ToldSentences extends Sentence {
         x.restore();
         due("no NOTES", x.count(3), 0);
         due("so all CODES are let be", x.which(), 1);
-        x = withNotes(10);
+        x = withNotes(10, "");
         x.image();
         x.forget();
         x.restore();
@@ -93,19 +104,11 @@ final class ToldSentences extends Sentence {
 
         of(34, "STATE: none was kept.");
         asked("a new one", STATE, MindReaders::new, y -> y.restore());
-        asked("one with NOTES and THINGS", STATE, () -> withNotes(10), y -> y.restore());
+        asked("one with NOTES and THINGS", STATE, () -> withNotes(10, ""), y -> y.restore());
         due("once one was kept", imaged("").restore(), 3);
         x = new MindReaders();
         x.image();
         due("even one of nothing", x.restore(), 0);
-    }
-
-    private static MindReaders withNotes(int many) {
-        MindReaders x = Check.with("a,b", 1, 1);
-        for (int i = 0; i < many; i++) {
-            Check.note(x, 0, "a");
-        }
-        return x;
     }
 
     private static void isCounted(Made made, int... due) {
